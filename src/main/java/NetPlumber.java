@@ -234,7 +234,7 @@ public final class NetPlumber {
         return (sides << quarters | sides >> SIDES - quarters) & ALL_OPEN;
     }
 
-    /** The set of cells, the left out one apart, to which one comes from a cell over the links. */
+    /** The set of cells to which one comes over the links; from the one left out none goes on. */
     private static int spread(int[] links, int start, int leftOut) {
         int reached = 1 << start;
         boolean wider = true;
@@ -248,7 +248,7 @@ public final class NetPlumber {
             }
             wider = reached != before;
         }
-        return leftOut == NONE ? reached : reached & ~(1 << leftOut);
+        return reached;
     }
 
     /** The cells with their tiles, locks and neighbours, and the walls between them. */
@@ -714,13 +714,11 @@ public final class NetPlumber {
             }
         }
 
+        /** Whether the cell fits to those tried before; no lay left is open where there is no way. */
         private boolean fits(int cell) {
             for (int side = UP; side <= LEFT; side++) {
                 int other = board.across(cell, side);
                 boolean open = holds(at(tiles, cell), side);
-                if (other == NONE && open) {
-                    return false;
-                }
                 if (other != NONE && other < cell && open != holds(at(tiles, other), opposite(side))) {
                     return false;
                 }
