@@ -686,7 +686,7 @@ public final class NetPlumber {
         int countAll() {
             found = 0;
             fewest = 0;
-            tryFrom(0, 0);
+            tryCell(0, 0);
             return found;
         }
 
@@ -698,19 +698,27 @@ public final class NetPlumber {
             return at(firstLays, cell);
         }
 
-        private void tryFrom(int cell, int turns) {
+        /** Tries the lays of a cell one by one; behind the last cell there is nothing to try. */
+        private void tryCell(int cell, int turns) {
             if (!board.has(cell)) {
                 noteSolution(cell, turns);
                 return;
             }
             for (int lay = 0; lay < SIDES; lay++) {
                 if (holds(sieve.leftAt(cell), lay)) {
-                    tried[cell] = lay;
-                    tiles[cell] = turned(board.sidesOf(cell), lay);
-                    if (fits(cell) && connect(cell)) {
-                        tryFrom(cell + 1, turns + lay);
-                    }
+                    tryLay(cell, lay, turns + lay);
                 }
+            }
+        }
+
+        private void tryLay(int cell, int lay, int turns) {
+            if (!board.has(cell)) {
+                return;
+            }
+            tried[cell] = lay;
+            tiles[cell] = turned(board.sidesOf(cell), lay);
+            if (fits(cell) && connect(cell)) {
+                tryCell(cell + 1, turns);
             }
         }
 
