@@ -372,7 +372,7 @@ public final class NetPlumber {
 
         boolean joins(int cell, int side) {
             int other = across(cell, side);
-            return other != NONE && holds(sidesOf(cell), side) && holds(sidesOf(other), opposite(side));
+            return other != NONE && holds(at(tiles, cell), side) && holds(at(tiles, other), opposite(side));
         }
 
         int countOpen() {
