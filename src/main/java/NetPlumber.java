@@ -8,6 +8,7 @@ public final class NetPlumber {
     private static final int SIDES = 4;
     private static final int ALL_OPEN = 15;
     private static final int MOST_WIDTH = 5;
+    private static final int MOST_HEIGHT = 5;
     private static final int MOST_CELLS = 16;
 
     private final Board board = new Board();
@@ -266,7 +267,7 @@ public final class NetPlumber {
         private int source;
 
         static boolean allows(int width, int height, boolean ring) {
-            if (width < 2 || width > MOST_WIDTH || height < 2 || height > 5) {
+            if (width < 2 || width > MOST_WIDTH || height < 2 || height > MOST_HEIGHT) {
                 return false;
             }
             if (ring) {
